@@ -10,6 +10,7 @@ public final class PlanTest {
     clear();
     rightOfEachAsk();
     rightOfSums();
+    rightOfDoubledSums();
     rightOfOtherBlocks();
     rightAmongTheLost();
     runs();
@@ -36,6 +37,7 @@ public final class PlanTest {
     }
     due.is("no sends", x.count(3), 0);
     due.is("the edges", x.send(63, 3, 0, 15, 15, true), 1);
+    due.is("steps of one send", x.count(4), 64);
     due.is("the edges", x.send(0, 0, 2, 0, 15, false), 2);
     due.is("steps", x.count(4), 64);
   }
@@ -161,6 +163,20 @@ public final class PlanTest {
     due.is("a sum of unlike blocks", x.right(1, 1), -102);
   }
 
+  /** Once twice in a sum, a sign stays so: where the sum is put, and when more is added. */
+  private static void rightOfDoubledSums() {
+    SumsToAll x = full(2);
+    x.send(0, 0, 1, 0, 0, true);
+    x.send(1, 0, 1, 0, 0, true);
+    x.send(2, 1, 0, 0, 0, false);
+    due.is("put", x.right(2, 0), -1);
+    x = full(3);
+    x.send(0, 0, 1, 0, 0, true);
+    x.send(1, 0, 1, 0, 0, true);
+    x.send(2, 2, 1, 0, 0, true);
+    due.is("added to", x.right(1, 1), -101);
+  }
+
   private static void rightOfOtherBlocks() {
     SumsToAll x = full(2);
     x.build(0, 1, 0);
@@ -170,6 +186,11 @@ public final class PlanTest {
     due.is("of the other one's: anything", x.right(1, 0), 1);
     x.send(6, 0, 1, 2, 7, false);
     due.is("but blocks from m on stay", x.right(1, 0), -108);
+    x.send(6, 0, 1, 3, 2, false);
+    due.is("block m too", x.right(1, 0), -103);
+    x.build(0, 1, 1);
+    x.send(0, 0, 1, 0, 9, true);
+    due.is("the very first sign in a sum too many", x.right(1, 1), -110);
     x.clear();
     x.build(0, 0, 0);
     x.send(5, 0, 1, 15, 15, true);
