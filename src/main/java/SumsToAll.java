@@ -861,6 +861,7 @@ public final class SumsToAll {
             }
         }
 
+        /** Backward it begins with the greatest d of all: where d is not below m, nothing is sent. */
         private void tree(int ask) {
             if (ask != SPREAD) {
                 for (int d = MOST_HOSTS; d > 0; d >>= 1) {
