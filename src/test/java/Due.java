@@ -17,6 +17,14 @@ final class Due {
     is(call, got ? 1L : 0L, want ? 1L : 0L);
   }
 
+  void is(String call, String got, String want) {
+    asked++;
+    if (!got.equals(want)) {
+      wrong++;
+      System.out.println(call + " answered " + got + ", due is " + want);
+    }
+  }
+
   void throwsNone(String call, SumsToAll x, int host, int block) {
     boolean thrown = false;
     try {
