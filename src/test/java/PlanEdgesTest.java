@@ -416,7 +416,16 @@ public final class PlanEdgesTest {
     y.send(1, 1, 0, 1, 1, true);
     due.is("the root's own once", y.right(1, 1), 1);
     due.is("the root's own twice", y.right(1, 0), -1);
+    y.clear();
+    y.send(0, 0, 1, 0, 0, true);
+    y.send(1, 0, 1, 0, 0, true);
+    y.send(2, 1, 0, 0, 0, false);
+    due.is("twice in the sum that is put", y.right(2, 0), -1);
     SumsToAll z = Houses.joined(3);
+    z.send(0, 1, 0, 0, 0, true);
+    z.send(1, 1, 0, 0, 0, true);
+    z.send(2, 2, 0, 0, 0, true);
+    due.is("twice in the sum, then another once", z.right(1, 0), -1);
     z.build(3, 1, 0);
     z.send(9, 1, 0, 5, 2, true);
     due.is("another block's sign in the sum", z.right(1, 0), -3);

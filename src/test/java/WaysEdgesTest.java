@@ -231,6 +231,11 @@ public final class WaysEdgesTest {
     due.is("goes to 7", x.sent(239, 2), 7);
     due.is("0's first block in the last step", x.sent(112, 3), 0);
     due.is("goes to 8", x.sent(112, 2), 8);
+    due.is("put", x.sent(112, 5), 0);
+    due.is("all have all", x.right(3, 0), 1);
+    x.build(2, 2, 0);
+    due.is("to all it is added", x.sent(1023, 5), 1);
+    due.is("all m blocks in each letter", x.count(3), 16 * x.count(5));
   }
 
   private static void turnOfTwoMovesUp() {
@@ -452,7 +457,8 @@ public final class WaysEdgesTest {
           int built = Houses.worn().build(way, ask, root);
           SumsToAll y = Houses.worn();
           y.build(way, ask, root);
-          worn.is("price(" + w + ", " + a + ", " + root + ")", x -> x.price(w, a, root), built < 0 ? built : y.ticks());
+          String call = "price(" + w + ", " + a + ", " + root + ")";
+          worn.is(call, x -> x.price(w, a, root), built < 0 ? built : y.ticks());
         }
       }
     }
