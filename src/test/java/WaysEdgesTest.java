@@ -339,7 +339,8 @@ public final class WaysEdgesTest {
       x.build(3, 1, root);
       due.is("direct to " + root, letters(x), toOne[root]);
       x.build(3, 3, root);
-      due.is("direct gather", letters(x), "0:0>1 0:1>2 0:2>3 0:3>0 1:0>2 1:1>3 1:2>0 1:3>1 2:0>3 2:1>0 2:2>1 2:3>2");
+      due.is("direct gather", letters(x),
+          "0:0>1 0:1>2 0:2>3 0:3>0 1:0>2 1:1>3 1:2>0 1:3>1 2:0>3 2:1>0 2:2>1 2:3>2");
       due.is("the last one's own block", x.sent(11, 3), 3);
       due.is("the first one's own block in the last step", x.sent(8, 3), 0);
     }
