@@ -27,7 +27,7 @@ public final class FaceTest {
   public static void main(String[] args) throws Exception {
     face();
     noPrivateNamesake();
-    if (args.length == 1) {
+    if (args.length >= 1) {
       text(Path.of(args[0]));
     } else {
       due.is("the path of the class's source is told", false, true);
